@@ -68,7 +68,7 @@ public final class PeepholeRules {
 
     // A walk pushes and pops each of at most 32 nodes once.
     private static final int WALK_STEPS = 64;
-    // The live weight is at most 32 * 3, each application lowers it, and one search finds nothing.
+    // The live weight is at most 32 * 3 and each application lowers it; the last search finds nothing.
     private static final int MOST_SEARCHES = 97;
 
     private final int maxNodes;
@@ -194,7 +194,6 @@ public final class PeepholeRules {
             keepOriginal();
             optimized = true;
         }
-        deleteDeadNodes();
         int before = applications;
         boolean applied = true;
         for (int search = 0; search < MOST_SEARCHES && applied; search++) {
@@ -658,8 +657,8 @@ public final class PeepholeRules {
         }
     }
 
-    private void deleteDeadNodes() {
-        listLive(CURRENT);
+    // listLive has marked the live nodes just before.
+    private void deleteUnseenNodes() {
         for (int n = 0; n < MOST_NODES; n++) {
             if (!seen[n]) {
                 setNode(n, FREE, 0, NONE, NONE);
@@ -669,6 +668,7 @@ public final class PeepholeRules {
 
     private boolean applyFirstMatch() {
         int live = listLive(CURRENT);
+        deleteUnseenNodes();
         countUses(live);
         for (int i = 0; i < live; i++) {
             int n = order[i];
@@ -745,7 +745,7 @@ public final class PeepholeRules {
         return boundNode[j] == n;
     }
 
-    // Only the value of a bound CONST is ever used; any other binding may answer what it likes.
+    // Only the value of a CONST matters: preconditions and folding never look at any other binding.
     private int boundValue(int j) {
         return boundNode[j] == NONE ? 0 : nodeValue[boundNode[j]];
     }
@@ -760,7 +760,6 @@ public final class PeepholeRules {
             counterpart[p] = buildNode(p);
         }
         redirect(root, counterpart[end - 1]);
-        deleteDeadNodes();
         applications++;
         useCount[rule]++;
     }

@@ -32,6 +32,13 @@ final class Promise05RuleCommitTest {
         check.due("two rules act", x.optimize(), 2);
         check.due("the third does not", Texts.shape(x, 0), "a0 0 add");
         check.due("an empty draft is ERR_FULL too", x.ruleCommit(), 1);
+        PeepholeRules y = fresh();
+        for (int r = 0; r < 16; r++) {
+            check.due("rule " + r, Texts.commit(y, "v0 not not not not not not not",
+                "v0 1 0 add sub 1 add not"), 0);
+        }
+        check.due("the longest draft behind 16 rules", Texts.commit(y, "v0 not not not not not not not",
+            "v0 1 0 add sub 1 add not"), 1);
     }
 
     private static void shape(Check check) {

@@ -11,6 +11,7 @@ final class Promise08OptimizeTest {
         preconditionIsAsked(check);
         room(check);
         roomOfConstants(check);
+        refusedDraftAsksForNoRoom(check);
         folding(check);
         bindingsAreShared(check);
         everyReferenceIsRedirected(check);
@@ -20,6 +21,10 @@ final class Promise08OptimizeTest {
         rulesInTurn(check);
         searchStartsAgain(check);
         secondOptimize(check);
+        manyDeadNodes(check);
+        manyApplications(check);
+        lastNode(check);
+        nodesBuiltEarlierAreRewritten(check);
         nothingElseChanges(check);
         check.finish();
     }
@@ -137,7 +142,19 @@ final class Promise08OptimizeTest {
         int root = x.addNode(9, inner, 0);
         x.addOutput(root);
         x.addOutput(inner);
-        check.due("an output uses the inner node", x.optimize(), 0);
+        check.due("output 1 uses the inner node", x.optimize(), 0);
+        x.clearDag();
+        inner = Texts.nodes(x, "a0 not");
+        root = x.addNode(9, inner, 0);
+        x.addOutput(inner);
+        x.addOutput(root);
+        check.due("output 0 uses it", x.optimize(), 0);
+        x.clearDag();
+        inner = Texts.nodes(x, "a0 not");
+        root = x.addNode(9, inner, 0);
+        x.addOutput(x.addNode(1, root, inner));
+        x.addOutput(inner);
+        check.due("a node and an output use it", x.optimize(), 0);
         x.clearDag();
         inner = Texts.nodes(x, "a0 not");
         root = x.addNode(9, inner, 0);
@@ -258,6 +275,20 @@ final class Promise08OptimizeTest {
         }
     }
 
+    // A refused draft whose first node was maximal must not make the next one's first node maximal.
+    private static void refusedDraftAsksForNoRoom(Check check) {
+        PeepholeRules x = new PeepholeRules(8, 4);
+        check.due("refused", Texts.commit(x, "v0 v0 add v0 add", "3 v0 add"), 6);
+        rule(x, "v0 0 and", "255 not");
+        int n = Texts.nodes(x, "a0 0 and");
+        while (x.stat(8) < 7) {
+            n = x.addNode(10, n, 0);
+        }
+        x.addOutput(n);
+        check.due("room for one node is enough", x.optimize(), 1);
+        check.due("one node is built", x.stat(0), 5);
+    }
+
     private static void folding(Check check) {
         PeepholeRules x = fresh();
         rule(x, "v0 k1 add 1 add", "v0 v1 1 add add");
@@ -271,6 +302,11 @@ final class Promise08OptimizeTest {
         check.due("another application", y.optimize(), 1);
         check.due("the root is folded", Texts.shape(y, 0), "17");
         check.due("live", y.stat(0), 1);
+        PeepholeRules z = fresh();
+        rule(z, "k0 v1 add 1 add", "v0 1 add v1 add");
+        Texts.output(z, "9 a0 add 1 add");
+        check.due("a third application", z.optimize(), 1);
+        check.due("operand A is folded", Texts.shape(z, 0), "10 a0 add");
     }
 
     private static void bindingsAreShared(Check check) {
@@ -421,6 +457,58 @@ final class Promise08OptimizeTest {
         check.due("original value", x.eval(0, 41, true), 41);
         check.due("nothing left again", x.optimize(), 0);
         check.due("uses", x.ruleUses(0), 1);
+    }
+
+    private static void manyDeadNodes(Check check) {
+        PeepholeRules x = fresh();
+        rule(x, "v0 2 mul", "v0 v0 add");
+        while (x.stat(8) < 29) {
+            x.addNode(12, 0, 0);
+        }
+        Texts.output(x, "a1 2 mul");
+        check.due("dead nodes take no room", x.optimize(), 1);
+        check.due("shape", Texts.shape(x, 0), "a1 a1 add");
+    }
+
+    private static void manyApplications(Check check) {
+        PeepholeRules x = fresh();
+        rule(x, "v0 neg neg not", "v0 not");
+        int n = x.addNode(12, 0, 0);
+        for (int i = 0; i < 9; i++) {
+            n = x.addNode(9, x.addNode(10, x.addNode(10, n, 0), 0), 0);
+        }
+        x.addOutput(n);
+        check.due("28 live nodes", x.stat(0), 28);
+        check.due("nine applications", x.optimize(), 9);
+        check.due("10 live nodes", x.stat(0), 10);
+        check.due("ninth operand", x.nodeAt(0, 0, 8), 9 * 256);
+        check.due("value", x.eval(0, 7, false), 248);
+        check.due("original value", x.eval(0, 7, true), 248);
+    }
+
+    private static void lastNode(Check check) {
+        PeepholeRules x = fresh();
+        rule(x, "k0 k1 add", "v0 v1 add");
+        int n = Texts.nodes(x, "30 12 add");
+        while (x.stat(8) < 31) {
+            n = x.addNode(9, n, 0);
+        }
+        x.addOutput(n);
+        check.due("the last of 32 nodes is used", x.optimize(), 1);
+        check.due("value", x.eval(0, 0, false), 42);
+        check.due("live", x.stat(0), 29);
+    }
+
+    private static void nodesBuiltEarlierAreRewritten(Check check) {
+        PeepholeRules x = fresh();
+        rule(x, "0 v0 add", "v0");
+        rule(x, "v0 neg neg not", "v0 not");
+        Texts.output(x, "0 a0 0 sub add neg neg not");
+        check.due("first", x.optimize(), 2);
+        check.due("a NOT is built", Texts.shape(x, 0), "a0 0 sub not");
+        rule(x, "v0 0 sub", "v0");
+        check.due("second", x.optimize(), 1);
+        check.due("its operand is redirected", Texts.shape(x, 0), "a0 not");
     }
 
     private static void nothingElseChanges(Check check) {
