@@ -496,6 +496,8 @@ final class Promise08OptimizeTest {
         x.addOutput(n);
         check.due("the last of 32 nodes is used", x.optimize(), 1);
         check.due("value", x.eval(0, 0, false), 42);
+        check.due("original value", x.eval(0, 0, true), 42);
+        check.due("original cost", x.stat(2), 29);
         check.due("live", x.stat(0), 29);
     }
 
