@@ -2,24 +2,30 @@
 final class Check {
     private int wrong = 0;
     private int asked = 0;
+    private String heading = "";
+
+    // The sentence that the next answers are about.
+    void under(String text) {
+        heading = text + ": ";
+    }
+
+    int asked() {
+        return asked;
+    }
 
     void due(String what, long got, long want) {
-        asked++;
-        if (got != want) {
-            wrong++;
-            System.out.println(what + ": answered " + got + ", due is " + want);
-        }
+        due(what, "" + got, "" + want);
     }
 
     void due(String what, boolean got, boolean want) {
-        due(what, got ? 1 : 0, want ? 1 : 0);
+        due(what, "" + got, "" + want);
     }
 
     void due(String what, String got, String want) {
         asked++;
         if (!got.equals(want)) {
             wrong++;
-            System.out.println(what + ": answered " + got + ", due is " + want);
+            System.out.println(heading + what + ": answered " + got + ", due is " + want);
         }
     }
 

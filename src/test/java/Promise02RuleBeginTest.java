@@ -1,26 +1,27 @@
+import java.io.IOException;
+
 final class Promise02RuleBeginTest {
-    public static void main(String[] args) {
-        Check check = new Check();
-        treesBecomeEmpty(check);
-        preconditionIsCleared(check);
-        nothingElseChanges(check);
-        check.finish();
+    public static void main(String[] args) throws IOException {
+        Sentences document = new Sentences("Promise 2");
+        document.test("the pattern and the replacement become empty with nothing pending",
+            Promise02RuleBeginTest::treesBecomeEmpty);
+        document.test("and the precondition is set to PRE_NONE", Promise02RuleBeginTest::preconditionIsCleared);
+        document.test("It always succeeds.", Promise02RuleBeginTest::alwaysSucceeds);
+        document.test("Accepted rules, their use counts", Promise02RuleBeginTest::nothingElseChanges);
+        document.finish();
+    }
+
+    private static PeepholeRules begun(PeepholeRules x) {
+        x.ruleBegin();
+        return x;
     }
 
     private static void treesBecomeEmpty(Check check) {
-        PeepholeRules x = new PeepholeRules(16, 8);
-        Texts.pattern(x, "v0 v1");
-        Texts.replacement(x, "v0 v1");
-        x.ruleBegin();
-        check.due("nothing pending in the pattern", x.rulePat(9, 0), false);
-        check.due("nothing pending in the replacement", x.ruleRep(9, 0), false);
-        check.due("both are empty", x.ruleCommit(), 2);
-        Texts.pattern(x, "v0 not not not not not not not");
-        Texts.replacement(x, "v0 not not not not not not not");
-        x.ruleBegin();
-        x.ruleBegin();
-        check.due("both have room again", Texts.commit(x, "v0 not not not not not not not",
-            "0 not not not not not not v0"), 2);
+        check.due("after half a draft",
+            States.trees(() -> begun(States.halfDrafted(States.fresh()))), States.EMPTY_TREES);
+        check.due("after a full draft",
+            States.trees(() -> begun(States.fullDraft(States.fresh()))), States.EMPTY_TREES);
+        PeepholeRules x = States.fresh();
         Texts.pattern(x, "v0 v1 add");
         x.ruleBegin();
         Texts.replacement(x, "v0");
@@ -32,7 +33,7 @@ final class Promise02RuleBeginTest {
     }
 
     private static void preconditionIsCleared(Check check) {
-        PeepholeRules x = new PeepholeRules(16, 8);
+        PeepholeRules x = States.fresh();
         x.rulePre(1, 0, 5);
         x.ruleBegin();
         check.due("no CVAR is asked for", Texts.commit(x, "v0 not not", "v0"), 0);
@@ -42,22 +43,29 @@ final class Promise02RuleBeginTest {
         check.due("counterexample", x.stat(5), 1);
     }
 
+    private static void alwaysSucceeds(Check check) {
+        States.all().forEach((name, made) -> {
+            check.due(name, States.trees(() -> begun(made.get())), States.EMPTY_TREES);
+            check.due(name + ", again", States.trees(() -> begun(begun(made.get()))), States.EMPTY_TREES);
+        });
+        PeepholeRules x = States.full();
+        States.drafted(x);
+        x.ruleBegin();
+        check.due("an emptied draft behind a full list of rules", x.ruleCommit(), 1);
+    }
+
     private static void nothingElseChanges(Check check) {
-        PeepholeRules x = new PeepholeRules(16, 8);
-        Texts.commit(x, "v0 not not", "v0");
-        Texts.output(x, "a0 not not a1 add");
-        String built = Texts.state(x);
-        x.ruleBegin();
-        check.due("BUILDING", Texts.state(x), built);
-        x.optimize();
-        Texts.commit(x, "v0 neg", "v0");
-        check.due("a counterexample stands", x.stat(5), 1);
-        String optimized = Texts.state(x);
-        Texts.pattern(x, "v0 neg neg");
-        x.rulePre(2, 1, 7);
-        x.ruleBegin();
-        check.due("OPTIMIZED", Texts.state(x), optimized);
-        x.optimize();
-        check.due("the rule still stands", x.ruleUses(0), 1);
+        States.dueSame(check, "BUILDING", () -> begun(States.drafted(States.built())), States::built);
+        States.dueSame(check, "OPTIMIZED", () -> begun(States.drafted(States.optimized())), States::optimized);
+        States.dueSame(check, "cleared", () -> begun(States.halfDrafted(States.cleared())), States::cleared);
+        States.dueSame(check, "full", () -> begun(States.fullDraft(States.full())), States::full);
+        PeepholeRules x = begun(States.optimized());
+        check.due("rules", x.stat(4), 2);
+        check.due("counterexample", x.stat(5), 256);
+        check.due("uses", x.ruleUses(0), 1);
+        check.due("applications", x.stat(3), 2);
+        check.due("original cost", x.stat(2), 4);
+        check.due("phase", x.stat(7), 1);
+        check.due("outputs", x.stat(6), 2);
     }
 }

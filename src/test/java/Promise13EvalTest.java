@@ -1,37 +1,51 @@
+import java.io.IOException;
+
 final class Promise13EvalTest {
-    public static void main(String[] args) {
-        Check check = new Check();
-        outputs(check);
-        inputs(check);
-        operations(check);
-        originalAndCurrent(check);
-        changesNothing(check);
-        check.finish();
+    private static final int LOW = Integer.MIN_VALUE;
+    private static final int HIGH = Integer.MAX_VALUE;
+
+    public static void main(String[] args) throws IOException {
+        Sentences document = new Sentences("Promise 13");
+        document.test("answers the value 0..255 of output k", Promise13EvalTest::values);
+        document.test("where input i is (args >>> (8*i)) & 255, for any int args", Promise13EvalTest::inputs);
+        document.test("If original is true, the ORIGINAL DAG is evaluated.", Promise13EvalTest::original);
+        document.test("In the BUILDING phase the current DAG is evaluated either way.", Promise13EvalTest::building);
+        document.test("It answers -1 if k is not an output index (not in 0..output count-1).", Promise13EvalTest::outside);
+        document.test("It changes nothing.", Promise13EvalTest::changesNothing);
+        document.finish();
     }
 
-    private static void outputs(Check check) {
-        PeepholeRules x = new PeepholeRules(16, 8);
-        check.due("no output", x.eval(0, 0, false), -1);
-        Texts.output(x, "7");
+    private static void values(Check check) {
+        PeepholeRules x = States.fresh();
+        Texts.output(x, "0");
+        Texts.output(x, "255");
         Texts.output(x, "a0 a1 add");
+        Texts.output(x, "a0 a1 sub");
         for (int round = 0; round < 2; round++) {
-            for (int k : new int[] {Integer.MIN_VALUE, -1, 2, 3, 4, 256, Integer.MAX_VALUE}) {
-                check.due("output " + k, x.eval(k, 0, false), -1);
-                check.due("original output " + k, x.eval(k, 0, true), -1);
-            }
-            check.due("output 0", x.eval(0, 99, false), 7);
-            check.due("output 1", x.eval(1, 0x0203, false), 5);
-            check.due("original output 1", x.eval(1, 0x0203, true), 5);
+            check.due("the least", x.eval(0, -1, false), 0);
+            check.due("the greatest", x.eval(1, 0, false), 255);
+            check.due("255 + 1", x.eval(2, 0x01ff, false), 0);
+            check.due("255 + 255", x.eval(2, 0xffff, false), 254);
+            check.due("0 - 1", x.eval(3, 0x0100, false), 255);
             x.optimize();
         }
+        PeepholeRules deep = new PeepholeRules(32, 1);
+        int n = deep.addNode(12, 0, 0);
+        for (int i = 1; i < 32; i++) {
+            n = deep.addNode(1, n, n);
+        }
+        deep.addOutput(n);
+        deep.addOutput(7);
+        check.due("doubled 31 times", deep.eval(0, 255, false), 0);
+        check.due("doubled 7 times", deep.eval(1, 255, false), 128);
     }
 
     private static void inputs(Check check) {
-        PeepholeRules x = new PeepholeRules(16, 8);
+        PeepholeRules x = States.fresh();
         for (int i = 0; i < 4; i++) {
             Texts.output(x, "a" + i);
         }
-        int[] words = {0, -1, 0x04030201, 0xff804020, Integer.MIN_VALUE, Integer.MAX_VALUE, 0x80};
+        int[] words = {0, -1, 1, 0x80, 0xff, 0x100, 0x04030201, 0xff804020, 0x80000000, 0x7f000000, LOW, HIGH, LOW + 1};
         for (int args : words) {
             for (int i = 0; i < 4; i++) {
                 long unsigned = args & 0xffffffffL;
@@ -42,84 +56,76 @@ final class Promise13EvalTest {
         }
     }
 
-    private static int meaning(int kind, int a, int b) {
-        switch (kind) {
-            case 1:
-                return (a + b) % 256;
-            case 2:
-                return (256 + a - b) % 256;
-            case 3:
-                return a * b % 256;
-            case 4:
-                return a & b;
-            case 5:
-                return a | b;
-            case 6:
-                return a ^ b;
-            case 7:
-                return b >= 8 ? 0 : a * (1 << b) % 256;
-            case 8:
-                return b >= 8 ? 0 : a / (1 << b);
-            case 9:
-                return 255 - a;
-            default:
-                return (256 - a) % 256;
-        }
-    }
-
-    private static void operations(Check check) {
-        for (int kind = 1; kind <= 10; kind++) {
-            PeepholeRules x = new PeepholeRules(16, 8);
-            x.addNode(12, 0, 0);
-            x.addNode(12, 1, 0);
-            x.addOutput(x.addNode(kind, 0, 1));
-            int wrong = 0;
-            for (int a = 0; a <= 255; a++) {
-                for (int b = 0; b <= 255; b++) {
-                    if (x.eval(0, a | b << 8, false) != meaning(kind, a, b)) {
-                        wrong++;
-                    }
-                }
-            }
-            check.due("wrong values of kind " + kind, wrong, 0);
-        }
-    }
-
-    private static void originalAndCurrent(Check check) {
-        PeepholeRules x = new PeepholeRules(16, 8);
-        Texts.commit(x, "v0 3 mul", "v0 1 shl v0 add");
+    // Both DAGs compute the same, so known values are asked for where a spoilt ORIGINAL would show.
+    private static void original(Check check) {
+        PeepholeRules x = States.fresh();
+        Texts.accept(x, "v0 3 mul", "v0 1 shl v0 add");
+        Texts.accept(x, "k0 k1 add", "v0 v1 add");
         Texts.output(x, "a0 3 mul a1 sub");
-        Texts.output(x, "a2 not");
-        check.due("BUILDING, original", x.eval(0, 0x0104, true), 11);
-        x.addNode(11, 9, 0);
-        x.addOutput(x.stat(8) - 1);
-        check.due("BUILDING, a later output", x.eval(2, 0, true), 9);
-        x.optimize();
+        Texts.output(x, "200 100 add");
+        check.due("applications", x.optimize(), 2);
         for (int i = 0; i < 256; i++) {
             int args = i * 0x01010101 + 0x00130500;
-            for (int k = 0; k < 3; k++) {
-                check.due("equal at " + args, x.eval(k, args, false), x.eval(k, args, true));
-            }
+            check.due("equal at " + args, x.eval(0, args, true), x.eval(0, args, false));
         }
-        check.due("value", x.eval(0, 0x0104, false), 11);
-        check.due("original value", x.eval(0, 0x0104, true), 11);
+        check.due("value", x.eval(0, 0x0104, true), 11);
+        check.due("a constant", x.eval(1, -1, true), 44);
+        x.optimize();
+        check.due("after a second optimize", x.eval(0, 0x0104, true), 11);
+        PeepholeRules full = States.full();
+        full.optimize();
+        int[] want = {7, 13, 248, 5};
+        for (int k = 0; k < 4; k++) {
+            check.due("of a full DAG, output " + k, full.eval(k, 0x0907, true), want[k]);
+        }
+    }
+
+    private static void building(Check check) {
+        PeepholeRules x = States.fresh();
+        Texts.output(x, "a0 3 mul");
+        check.due("at the start", x.eval(0, 4, true), 12);
+        check.due("not the original", x.eval(0, 4, false), 12);
+        Texts.output(x, "9");
+        check.due("a later output", x.eval(1, 0, true), 9);
+        x.optimize();
         x.clearDag();
-        check.due("no original any more", x.eval(0, 0, true), -1);
+        check.due("cleared, no output", x.eval(0, 4, true), -1);
         Texts.output(x, "a3 neg");
-        check.due("the new DAG is the original", x.eval(0, 0x01000000, true), 255);
+        check.due("the new DAG", x.eval(0, 0x01000004, true), 255);
+        check.due("the new DAG, not the original", x.eval(0, 0x01000004, false), 255);
+        check.due("no second output any more", x.eval(1, 0, true), -1);
+    }
+
+    private static void outside(Check check) {
+        int[] never = {LOW, -256, -4, -1, 4, 5, 8, 256, HIGH};
+        PeepholeRules x = States.fresh();
+        for (int count = 0; count <= 4; count++) {
+            for (boolean ofOriginal : new boolean[] {false, true}) {
+                for (int k : never) {
+                    check.due("output " + k + " of " + count, x.eval(k, 0, ofOriginal), -1);
+                }
+                for (int k = 0; k < 4; k++) {
+                    check.due("output " + k + " of " + count, x.eval(k, 0, ofOriginal), k < count ? 7 : -1);
+                }
+            }
+            x.addOutput(count == 0 ? Texts.nodes(x, "7") : 0);
+        }
+        x.optimize();
+        for (int k : never) {
+            check.due("OPTIMIZED, output " + k, x.eval(k, 0, false), -1);
+            check.due("OPTIMIZED, original output " + k, x.eval(k, 0, true), -1);
+        }
+        PeepholeRules y = States.optimized();
+        check.due("OPTIMIZED, behind the last", y.eval(2, 0, false), -1);
+        check.due("OPTIMIZED, behind the original's last", y.eval(2, 0, true), -1);
     }
 
     private static void changesNothing(Check check) {
-        PeepholeRules x = new PeepholeRules(16, 8);
-        Texts.commit(x, "v0 not not", "v0");
-        Texts.output(x, "a0 not not a1 mul");
-        for (int round = 0; round < 2; round++) {
-            String before = Texts.state(x);
-            x.eval(0, 12345, true);
-            x.eval(0, 54321, false);
-            x.eval(1, 0, false);
-            check.due("state", Texts.state(x), before);
-            x.optimize();
-        }
+        States.dueUnchangedInAll(check, "eval", x -> {
+            for (int k = -1; k <= 4; k++) {
+                x.eval(k, 54321, true);
+                x.eval(k, -12345, false);
+            }
+        });
     }
 }

@@ -65,6 +65,17 @@ final class Texts {
         return x.ruleCommit();
     }
 
+    static void accept(PeepholeRules x, String pattern, String replacement) {
+        acceptIf(x, pre(0, 0, 0), pattern, replacement);
+    }
+
+    static void acceptIf(PeepholeRules x, int[] precondition, String pattern, String replacement) {
+        int verdict = commitIf(x, precondition, pattern, replacement);
+        if (verdict != 0) {
+            throw new IllegalStateException(pattern + " -> " + replacement + " has the verdict " + verdict);
+        }
+    }
+
     static int[] pre(int relation, int j, int k) {
         return new int[] {relation, j, k};
     }
