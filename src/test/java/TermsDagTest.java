@@ -3,7 +3,7 @@ import java.io.IOException;
 final class TermsDagTest {
     public static void main(String[] args) throws IOException {
         Sentences document = new Sentences("DAG");
-        document.test("Nodes get the numbers 0, 1, 2, … in the order they are added.", TermsDagTest::numbers);
+        document.test("in the order they are added.", TermsDagTest::numbers);
         document.test("There are up to 4 outputs, each naming a node.", TermsDagTest::outputs);
         document.test("A node is live if it can be reached from an output through operand links.", TermsDagTest::live);
         document.test("uses(n) is the count of the operand slots of live nodes that refer to n", TermsDagTest::slots);

@@ -3,7 +3,7 @@ import java.io.IOException;
 final class TermsOrderTest {
     public static void main(String[] args) throws IOException {
         Sentences document = new Sentences("Order");
-        document.test("Nodes are visited in postorder from output 0, 1, 2, … in turn", TermsOrderTest::outputsInTurn);
+        document.test("Nodes are visited in postorder from output 0, 1, 2", TermsOrderTest::outputsInTurn);
         document.test("operand A's subtree, then B's subtree", TermsOrderTest::operandAFirst);
         document.test("then the node", TermsOrderTest::childrenFirst);
         document.test("Each node is taken once, at its first completion.", TermsOrderTest::firstCompletion);
