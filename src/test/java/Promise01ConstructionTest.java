@@ -88,11 +88,7 @@ final class Promise01ConstructionTest {
     private static int applicationsWith(int maxNodes, int live) {
         PeepholeRules x = new PeepholeRules(maxNodes, 0);
         Texts.accept(x, "v0 neg neg not", "v0 not");
-        int n = Texts.nodes(x, "a0 neg neg not");
-        while (x.stat(8) < live) {
-            n = x.addNode(9, n, 0);
-        }
-        x.addOutput(n);
+        x.addOutput(Texts.chain(x, 9, Texts.nodes(x, "a0 neg neg not"), live));
         return x.optimize();
     }
 
@@ -196,9 +192,9 @@ final class Promise01ConstructionTest {
                 check.due("stat " + which + " of " + given, x.stat(which), which == 5 ? -1 : 0);
             }
         }
-        PeepholeRules used = States.optimized();
-        PeepholeRules unused = States.fresh();
-        check.due("another object's calls are not seen", used.stat(7), 1);
-        check.due("phase of the new one", unused.stat(7), 0);
+        PeepholeRules x = States.fresh();
+        String before = Texts.state(x);
+        check.due("another object is used", States.future(States::optimized).isEmpty(), false);
+        check.due("its calls are not seen", Texts.state(x), before);
     }
 }

@@ -343,11 +343,22 @@ final class Promise05RuleCommitTest {
             check.due("verdict of " + draft[1], verdict, Integer.parseInt(draft[0]));
             check.due("no precondition after " + verdict, Texts.commit(x, "v0 neg neg", "v0"), 0);
         }
+        nothingOfALongerDraft(check);
         check.due("trees after 1", States.trees(() -> committed(0, States.drafted(States.full()))), States.EMPTY_TREES);
         check.due("trees after half a draft",
             States.trees(() -> committed(2, States.halfDrafted(roomy()))), States.EMPTY_TREES);
         check.due("trees after a full draft",
             States.trees(() -> committed(2, States.fullDraft(roomy()))), States.EMPTY_TREES);
+    }
+
+    private static void nothingOfALongerDraft(Check check) {
+        PeepholeRules x = roomy();
+        check.due("a longer draft", Texts.commit(x, "v0 v0 v1 add add", "v0 v1 add v0 add"), 5);
+        check.due("its variables are gone", Texts.commit(x, "v0 not", "v1"), 3);
+        check.due("a dearer draft", Texts.commit(x, "v0 not not", "v0 not not"), 5);
+        check.due("its weight is gone", Texts.commit(x, "v0 not", "v0 not"), 5);
+        check.due("a longer replacement", Texts.commit(x, "v0 not", "v0 not not"), 5);
+        check.due("its weight is gone too", Texts.commit(x, "v0 not not", "v0"), 0);
     }
 
     private static void nothingElseChanges(Check check) {

@@ -87,7 +87,7 @@ final class Promise08OptimizeTest {
         check.due("shape", Texts.shape(x, 0), "a2 not");
         PeepholeRules y = large();
         Texts.accept(y, "v0 2 mul", "v0 v0 add");
-        while (y.stat(8) < 29) {
+        for (int i = 0; i < 29; i++) {
             y.addNode(12, 0, 0);
         }
         Texts.output(y, "a1 2 mul");
@@ -346,7 +346,7 @@ final class Promise08OptimizeTest {
         Texts.accept(y, "v0 0 add", "v0");
         n = y.addNode(12, 0, 0);
         int zero = y.addNode(11, 0, 0);
-        while (y.stat(8) < 31) {
+        for (int i = 0; i < 29; i++) {
             n = y.addNode(1, n, zero);
         }
         y.addOutput(n);

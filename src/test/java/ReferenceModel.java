@@ -152,7 +152,7 @@ final class ReferenceModel {
         return kind == 3 ? 3 : kind <= 10 ? 1 : 0;
     }
 
-    private static int meaning(int kind, int a, int b) {
+    static int meaning(int kind, int a, int b) {
         switch (kind) {
             case 1:
                 return (a + b) % 256;

@@ -10,11 +10,7 @@ final class Room {
         Texts.accept(x, pattern, replacement);
         Texts.output(x, expression);
         // A chain that no rule here matches takes the other nodes.
-        int n = x.addNode(12, 3, 0);
-        while (x.stat(8) < live) {
-            n = x.addNode(10, n, 0);
-        }
-        x.addOutput(n);
+        x.addOutput(Texts.chain(x, 10, x.addNode(12, 3, 0), live));
         if (x.stat(0) != live) {
             throw new IllegalStateException("not " + live + " live nodes");
         }

@@ -63,7 +63,11 @@ final class Sentences {
         check.under(part + ", \"" + clause + "\"");
         tick(clause);
         int before = check.asked();
-        test.accept(check);
+        try {
+            test.accept(check);
+        } catch (RuntimeException failure) {
+            check.due("the test", "" + failure, "no exception");
+        }
         check.due("something was asked", check.asked() > before, true);
     }
 

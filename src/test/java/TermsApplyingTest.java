@@ -39,15 +39,27 @@ final class TermsApplyingTest {
         Texts.output(all, "a0 not not not not not not not");
         all.optimize();
         check.due("the largest replacement", Texts.shape(all, 0), "a0 1 sub 1 add not");
-        // The last of 32 nodes can be a new one.
-        PeepholeRules last = with("k0 k1 add", "v0 v1 add");
-        int n = Texts.nodes(last, "30 12 add");
-        while (last.stat(8) < 31) {
-            n = last.addNode(9, n, 0);
+        for (int dead = 0; dead < 32; dead++) {
+            lastFreeNode(check, dead);
         }
-        last.addOutput(n);
-        check.due("with 31 live nodes", last.optimize(), 1);
-        check.due("value", last.eval(0, 0, false), 42);
+    }
+
+    // With 31 of 32 nodes live, the one new node takes the place of the dead one, whichever that is.
+    private static void lastFreeNode(Check check, int dead) {
+        PeepholeRules x = with("k0 k1 add", "v0 v1 add");
+        int[] live = new int[31];
+        for (int i = 0; i < 31; i++) {
+            if (x.stat(8) == dead) {
+                x.addNode(12, 3, 0);
+            }
+            live[i] = i < 2 ? x.addNode(11, 30 - 18 * i, 0) : x.addNode(i == 2 ? 1 : 9, live[i == 2 ? 0 : i - 1], live[1]);
+        }
+        x.addOutput(live[30]);
+        check.due("place " + dead + ", applications", x.optimize(), 1);
+        check.due("place " + dead + ", value", x.eval(0, 0, false), 42);
+        check.due("place " + dead + ", original value", x.eval(0, 0, true), 42);
+        check.due("place " + dead + ", live nodes", x.stat(0), 29);
+        check.due("place " + dead + ", original cost", x.stat(2), 29);
     }
 
     private static void varLeaf(Check check) {
@@ -98,8 +110,18 @@ final class TermsApplyingTest {
         dueFolded(check, "k0 not 0 add", "v0 not", "7 not 0 add", "248", 1);
         dueFolded(check, "v0 0 and", "0", "a0 0 and", "0", 1);
         dueFolded(check, "v0 8 mul", "v0 1 2 add shl", "a0 8 mul", "a0 3 shl", 3);
+        dueFolded(check, "v0 k1 add 2 add", "v0 v1 1 add 1 add add", "a0 7 add 2 add", "a0 9 add", 3);
+        innerConstantsTakeNoRoom(check);
         // Equal constants in two places are two nodes.
         dueFolded(check, "v0 3 add 3 add 0 or", "v0 3 add 3 add", "a0 3 add 3 add 0 or", "a0 3 add 3 add", 5);
+    }
+
+    private static void innerConstantsTakeNoRoom(Check check) {
+        PeepholeRules x = with("v0 k1 add 2 add", "v0 v1 1 add 1 add add");
+        x.addOutput(Texts.chain(x, 9, Texts.nodes(x, "a0 7 add 2 add"), 29));
+        check.due("room for a VAR, a constant and a sum", x.optimize(), 1);
+        check.due("the sum and its operands", x.stat(0), 27);
+        check.due("its value", x.eval(0, 1, false), 10);
     }
 
     private static void redirected(Check check) {

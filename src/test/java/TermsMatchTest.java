@@ -225,11 +225,7 @@ final class TermsMatchTest {
             for (int free = 0; free <= 3; free++) {
                 PeepholeRules x = new PeepholeRules(maxNodes, 4);
                 Texts.accept(x, "v0 neg neg not", "v0 not");
-                int n = Texts.nodes(x, "a0 neg neg not");
-                while (x.stat(8) < maxNodes - free) {
-                    n = x.addNode(9, n, 0);
-                }
-                x.addOutput(n);
+                x.addOutput(Texts.chain(x, 9, Texts.nodes(x, "a0 neg neg not"), maxNodes - free));
                 check.due(free + " free of " + maxNodes, x.optimize(), free >= 2 ? 1 : 0);
             }
         }
@@ -247,7 +243,7 @@ final class TermsMatchTest {
         PeepholeRules x = new PeepholeRules(8, 4);
         Texts.accept(x, "v0 2 mul", "v0 v0 add");
         Texts.output(x, "a0 2 mul");
-        while (x.stat(8) < 8) {
+        for (int i = 3; i < 8; i++) {
             x.addNode(12, 1, 0);
         }
         check.due("dead nodes take none", x.optimize(), 1);

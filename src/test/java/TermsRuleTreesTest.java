@@ -162,6 +162,7 @@ final class TermsRuleTreesTest {
         check.due("operand B alone", verdict("v0 k1 mul", "v0 v1 mul"), 5);
         check.due("a CONST and a VAR", verdict("v0 7 add", "v0 7 add"), 5);
         check.due("deep ones", verdict("k0 not not", "v0 1 add 1 sub neg neg"), 0);
+        check.due("eight of them", verdict("v0 v0 xor 3 or", "1 not 2 add neg neg 3 add"), 0);
         dueRewritten(check, "k0 neg", "v0 not 1 add", "7 neg", "249");
         dueRewritten(check, "v0 k1 add 1 add", "v0 v1 1 add add", "a0 7 add 1 add", "a0 8 add");
     }
@@ -183,11 +184,7 @@ final class TermsRuleTreesTest {
         PeepholeRules x = new PeepholeRules(8, 4);
         check.due("refused", Texts.commit(x, "v0 v0 add v0 add", "3 v0 add"), 6);
         Texts.accept(x, "v0 0 and", "255 not");
-        int n = Texts.nodes(x, "a0 0 and");
-        while (x.stat(8) < 7) {
-            n = x.addNode(10, n, 0);
-        }
-        x.addOutput(n);
+        x.addOutput(Texts.chain(x, 10, Texts.nodes(x, "a0 0 and"), 7));
         check.due("room for one node is enough", x.optimize(), 1);
     }
 

@@ -38,31 +38,6 @@ final class TermsSemanticsTest {
         document.finish();
     }
 
-    private static int meaning(int kind, int a, int b) {
-        switch (kind) {
-            case 1:
-                return (a + b) % 256;
-            case 2:
-                return (256 + a - b) % 256;
-            case 3:
-                return a * b % 256;
-            case 4:
-                return a & b;
-            case 5:
-                return a | b;
-            case 6:
-                return a ^ b;
-            case 7:
-                return b >= 8 ? 0 : a * (1 << b) % 256;
-            case 8:
-                return b >= 8 ? 0 : a / (1 << b);
-            case 9:
-                return 255 - a;
-            default:
-                return (256 - a) % 256;
-        }
-    }
-
     private static PeepholeRules ofInputs(int kind) {
         PeepholeRules x = States.fresh();
         x.addNode(12, 0, 0);
@@ -79,7 +54,7 @@ final class TermsSemanticsTest {
             for (int args = 0; args < 65536; args++) {
                 int value = x.eval(0, args, false);
                 outside += value < 0 || value > 255 ? 1 : 0;
-                wrong += value != meaning(kind, args % 256, args / 256) ? 1 : 0;
+                wrong += value != ReferenceModel.meaning(kind, args % 256, args / 256) ? 1 : 0;
             }
             check.due("values of " + WORDS[kind] + " outside", outside, 0);
             check.due("wrong values of " + WORDS[kind], wrong, 0);

@@ -105,6 +105,15 @@ final class Texts {
         return stack[0];
     }
 
+    // Adds unary nodes above the last node until there are so many nodes in all, and answers the last.
+    static int chain(PeepholeRules x, int kind, int last, int nodes) {
+        int n = last;
+        for (int count = last + 1; count < nodes; count++) {
+            n = x.addNode(kind, n, 0);
+        }
+        return n;
+    }
+
     static int output(PeepholeRules x, String text) {
         return x.addOutput(nodes(x, text));
     }
