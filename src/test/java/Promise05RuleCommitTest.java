@@ -359,6 +359,11 @@ final class Promise05RuleCommitTest {
         check.due("its weight is gone", Texts.commit(x, "v0 not", "v0 not"), 5);
         check.due("a longer replacement", Texts.commit(x, "v0 not", "v0 not not"), 5);
         check.due("its weight is gone too", Texts.commit(x, "v0 not not", "v0"), 0);
+        check.due("a longer folded replacement", Texts.commit(x, "v0 v0 xor", "7 not not"), 6);
+        Texts.accept(x, "v0 0 and", "255 not");
+        Texts.output(x, "a0 0 and");
+        x.optimize();
+        check.due("its marks are gone", Texts.shape(x, 0), "0");
     }
 
     private static void nothingElseChanges(Check check) {

@@ -55,10 +55,15 @@ final class TermsApplyingTest {
             live[i] = i < 2 ? x.addNode(11, 30 - 18 * i, 0) : x.addNode(i == 2 ? 1 : 9, live[i == 2 ? 0 : i - 1], live[1]);
         }
         x.addOutput(live[30]);
+        x.addOutput(live[0]);
+        x.addOutput(live[1]);
         check.due("place " + dead + ", applications", x.optimize(), 1);
-        check.due("place " + dead + ", value", x.eval(0, 0, false), 42);
-        check.due("place " + dead + ", original value", x.eval(0, 0, true), 42);
-        check.due("place " + dead + ", live nodes", x.stat(0), 29);
+        int[] values = {42, 30, 12};
+        for (int k = 0; k < 3; k++) {
+            check.due("place " + dead + ", value of " + k, x.eval(k, 0, false), values[k]);
+            check.due("place " + dead + ", original value of " + k, x.eval(k, 0, true), values[k]);
+        }
+        check.due("place " + dead + ", live nodes", x.stat(0), 31);
         check.due("place " + dead + ", original cost", x.stat(2), 29);
     }
 
