@@ -5,6 +5,9 @@ import java.util.function.Supplier;
 
 // Objects in the states that matter, and all that their later answers can tell of them.
 final class States {
+    static final String EMPTY_TREES =
+        "pattern: 8 leaves 0 binary nodes no unary node, replacement: 8 leaves 0 binary nodes no unary node";
+
     private States() {
     }
 
@@ -107,11 +110,8 @@ final class States {
         return text;
     }
 
-    static final String EMPTY_TREES =
-        "pattern: 8 leaves 0 binary nodes no unary node, replacement: 8 leaves 0 binary nodes no unary node";
-
-    // All that the object answers from now on: at once, after its draft is judged, after its DAG is optimised, after more
-    // is added to that, and of a DAG on which its rules act. No query comes before the first of these calls, so what a query spoils shows too.
+    // All that the object answers from now on, asked in turns of new objects: a query that came before the other calls
+    // could hide what an earlier query has spoilt.
     static String future(Supplier<PeepholeRules> made) {
         String text = Texts.state(made.get());
         PeepholeRules committed = made.get();
