@@ -1,99 +1,147 @@
+import java.io.IOException;
 import java.lang.reflect.Constructor;
 import java.lang.reflect.Field;
 import java.lang.reflect.Method;
 import java.lang.reflect.Modifier;
-import java.util.Arrays;
+import java.nio.file.Files;
+import java.nio.file.Path;
+import java.util.ArrayList;
 import java.util.List;
 import java.util.TreeSet;
+import java.util.regex.Matcher;
+import java.util.regex.Pattern;
+import java.util.stream.Collectors;
 
-// The class shows the document's face and nothing else, and its fields are of the allowed types.
+// The class shows the face that stands in the document and nothing else, and its members are of the allowed types.
 final class FaceTest {
-    private static final String[] CONSTANTS = {
-        "ADD=1", "SUB=2", "MUL=3", "AND=4", "OR=5", "XOR=6", "SHL=7", "SHR=8", "NOT=9", "NEG=10",
-        "CONST=11", "ARG=12", "VAR=13", "CVAR=14",
-        "PRE_NONE=0", "PRE_EQ=1", "PRE_NE=2", "PRE_ULT=3", "PRE_UGE=4",
-        "OK=0", "ERR_FULL=1", "ERR_SHAPE=2", "ERR_VARS=3", "ERR_PRE=4", "ERR_COST=5", "ERR_WRONG=6",
-        "STAT_LIVE_NODES=0", "STAT_LIVE_COST=1", "STAT_ORIG_COST=2", "STAT_APPLICATIONS=3",
-        "STAT_RULES=4", "STAT_COUNTEREXAMPLE=5", "STAT_OUTPUTS=6", "STAT_PHASE=7", "STAT_NODES=8"
-    };
-    private static final String[] METHODS = {
-        "void ruleBegin []", "boolean rulePat [int, int]", "boolean ruleRep [int, int]",
-        "boolean rulePre [int, int, int]", "int ruleCommit []", "int addNode [int, int, int]",
-        "int addOutput [int]", "int optimize []", "void clearDag []", "int stat [int]",
-        "int countOp [int]", "int ruleUses [int]", "int eval [int, int, boolean]",
-        "int nodeAt [int, int, int]"
-    };
+    private static final Pattern CONSTANT = Pattern.compile("([A-Z_]+) = (\\d+)");
+    private static final Pattern SIGNATURE = Pattern.compile("public (?:\\w+ )?\\w+\\(.*\\)");
+    private static final List<Class<?>> NUMBERS =
+        List.of(int.class, long.class, short.class, byte.class, char.class, boolean.class);
 
-    public static void main(String[] args) throws IllegalAccessException {
-        Check check = new Check();
-        constants(check);
-        methods(check);
-        constructors(check);
-        fields(check);
-        check.due("public and final", Modifier.isPublic(PeepholeRules.class.getModifiers())
-            && Modifier.isFinal(PeepholeRules.class.getModifiers()), true);
-        check.due("nested classes", PeepholeRules.class.getDeclaredClasses().length, 0);
-        check.finish();
+    private final String face;
+    private final String source;
+
+    private FaceTest(String face, String source) {
+        this.face = face;
+        this.source = source;
     }
 
-    private static String sorted(String[] texts) {
-        return new TreeSet<>(Arrays.asList(texts)).toString();
+    public static void main(String[] args) throws IOException {
+        FaceTest test = new FaceTest(Sentences.code(), Files.readString(Path.of("src/main/java/PeepholeRules.java")));
+        Sentences document = new Sentences("The public face");
+        document.test("Each constant is declared as its own `public static final int` field", test::declarations);
+        document.test("with the value shown", test::constants);
+        document.testBeside("the class", test::classItself);
+        document.testBeside("the constructor and the methods", test::methods);
+        document.testBeside("the private methods", test::privateMethods);
+        document.testBeside("the fields", test::fields);
+        document.finish();
     }
 
-    private static void constants(Check check) throws IllegalAccessException {
-        TreeSet<String> found = new TreeSet<>();
+    private static List<String> found(Pattern pattern, String text) {
+        List<String> list = new ArrayList<>();
+        Matcher matcher = pattern.matcher(text);
+        while (matcher.find()) {
+            list.add(matcher.group());
+        }
+        return list;
+    }
+
+    private void declarations(Check check) {
+        List<String> constants = found(CONSTANT, face);
+        check.due("constants of the document", constants.size(), 35);
+        for (String constant : constants) {
+            String declaration = "    public static final int " + constant + ";\n";
+            check.due("declared: " + constant, source.contains(declaration), true);
+        }
+    }
+
+    private static int valueOf(Field field) {
+        try {
+            return field.getInt(null);
+        } catch (IllegalAccessException refused) {
+            throw new IllegalStateException(refused);
+        }
+    }
+
+    private void constants(Check check) {
+        TreeSet<String> shown = new TreeSet<>();
         for (Field field : PeepholeRules.class.getDeclaredFields()) {
             int modifiers = field.getModifiers();
             if (!Modifier.isPrivate(modifiers)) {
                 check.due(field.getName() + " is a public constant", Modifier.isPublic(modifiers)
                     && Modifier.isStatic(modifiers) && Modifier.isFinal(modifiers)
                     && field.getType() == int.class, true);
-                found.add(field.getName() + "=" + field.getInt(null));
+                shown.add(field.getName() + " = " + valueOf(field));
             }
         }
-        check.due("public constants", found.toString(), sorted(CONSTANTS));
+        check.due("public constants", shown.toString(), new TreeSet<>(found(CONSTANT, face)).toString());
     }
 
-    private static void methods(Check check) {
-        TreeSet<String> found = new TreeSet<>();
-        TreeSet<String> publicNames = new TreeSet<>();
+    private void classItself(Check check) {
+        int modifiers = PeepholeRules.class.getModifiers();
+        check.due("of the document", face.contains("public final class PeepholeRules {"), true);
+        check.due("public and final", modifiers, Modifier.PUBLIC | Modifier.FINAL);
+        check.due("in no package", PeepholeRules.class.getPackageName(), "");
+        check.due("nested classes", PeepholeRules.class.getDeclaredClasses().length, 0);
+        check.due("superclass", PeepholeRules.class.getSuperclass().getName(), "java.lang.Object");
+        check.due("interfaces", PeepholeRules.class.getInterfaces().length, 0);
+    }
+
+    private static String withoutNames(String signature) {
+        return signature.replaceAll("(int|boolean) \\w+([,)])", "$1$2").replace(", ", ",");
+    }
+
+    private void methods(Check check) {
+        List<String> signatures = found(SIGNATURE, face);
+        check.due("constructor and methods of the document", signatures.size(), 15);
+        for (String signature : signatures) {
+            check.due("written: " + signature, source.contains("    " + signature + " {\n"), true);
+        }
+        TreeSet<String> shown = new TreeSet<>();
         for (Method method : PeepholeRules.class.getDeclaredMethods()) {
             if (!Modifier.isPrivate(method.getModifiers())) {
-                check.due(method.getName() + " is public, of the object",
-                    method.getModifiers() == Modifier.PUBLIC, true);
-                found.add(method.getReturnType() + " " + method.getName() + " "
-                    + Arrays.toString(method.getParameterTypes()));
-                publicNames.add(method.getName());
+                shown.add(method.toString().replace("PeepholeRules.", ""));
             }
         }
-        check.due("public methods", found.toString(), sorted(METHODS));
+        for (Constructor<?> constructor : PeepholeRules.class.getDeclaredConstructors()) {
+            shown.add(constructor.toString());
+        }
+        TreeSet<String> due = signatures.stream().map(FaceTest::withoutNames).collect(Collectors.toCollection(TreeSet::new));
+        check.due("all that is not private", shown.toString(), due.toString());
+    }
+
+    private static boolean isAllowed(Class<?> type) {
+        return NUMBERS.contains(type.isArray() ? type.getComponentType() : type);
+    }
+
+    private void privateMethods(Check check) {
         for (Method method : PeepholeRules.class.getDeclaredMethods()) {
+            String name = method.getName();
             if (Modifier.isPrivate(method.getModifiers())) {
-                check.due("private " + method.getName() + " bears a public name",
-                    publicNames.contains(method.getName()), false);
-                check.due(method.getName() + " takes at most seven parameters",
-                    method.getParameterCount() <= 7, true);
+                check.due(name + " bears a public name", face.contains(" " + name + "("), false);
+                check.due(name + " takes at most seven parameters", method.getParameterCount() <= 7, true);
+                check.due(name + " answers a number or nothing",
+                    method.getReturnType() == void.class || NUMBERS.contains(method.getReturnType()), true);
+                for (Class<?> type : method.getParameterTypes()) {
+                    check.due(name + " takes " + type, isAllowed(type), true);
+                }
             }
         }
     }
 
-    private static void constructors(Check check) {
-        Constructor<?>[] found = PeepholeRules.class.getDeclaredConstructors();
-        check.due("constructors", found.length, 1);
-        check.due("constructor", found[0].toString(), "public PeepholeRules(int,int)");
-    }
-
-    private static void fields(Check check) {
-        List<Class<?>> numbers = List.of(int.class, long.class, short.class, byte.class, char.class, boolean.class);
+    private void fields(Check check) {
         int count = 0;
         for (Field field : PeepholeRules.class.getDeclaredFields()) {
             Class<?> type = field.getType();
+            boolean isFinal = Modifier.isFinal(field.getModifiers());
             if (Modifier.isStatic(field.getModifiers())) {
-                check.due(field.getName() + " is a constant", Modifier.isFinal(field.getModifiers())
-                    && (type == int.class || type == long.class), true);
+                check.due(field.getName() + " is a constant", isFinal && (type == int.class || type == long.class), true);
             } else {
-                check.due(field.getName() + " has an allowed type", numbers.contains(type)
-                    || type.isArray() && numbers.contains(type.getComponentType()), true);
+                check.due(field.getName() + " has an allowed type", isAllowed(type), true);
+                // A final array field is one that no method can assign to.
+                check.due(field.getName() + " stays the same array", !type.isArray() || isFinal, true);
                 count++;
             }
         }

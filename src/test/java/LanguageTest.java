@@ -8,12 +8,22 @@ import java.util.regex.Matcher;
 import java.util.regex.Pattern;
 
 // What of LANGUAGE.md can be seen in the words of the source; run from the project's own directory.
+// FaceTest sees what can be seen of the compiled class.
 final class LanguageTest {
     private static final Pattern FORBIDDEN = Pattern.compile("\\b(import|package|throw|throws|try|catch|synchronized"
-        + "|assert|instanceof|null|float|double|String|Math|Integer|System|Arrays|Object|interface|enum|record|protected)\\b|->|::|\"");
+        + "|assert|instanceof|null|float|double|var|interface|enum|record|protected|native|super)\\b|->|::|\"|@|\\]\\s*\\[");
+    // Only the class itself bears such a name, so no other class is used.
+    private static final Pattern CLASS_LIKE = Pattern.compile("\\b[A-Z]\\w*[a-z]\\w*\\b");
+    private static final Pattern MEMBER = Pattern.compile("(\\w+|\\)|\\])\\s*\\.\\s*\\w");
     private static final Pattern CALL = Pattern.compile("\\b(?!(?:if|for|while|switch|return)\\b)([a-z]\\w*)\\s*\\(");
     private static final Pattern NAME = Pattern.compile("(\\w+)\\s*\\(");
-    private static final String ARRAY = "new (int|long|short|byte|char|boolean)\\[\\w+\\]";
+    private static final Pattern ARRAY = Pattern.compile("new (?:int|long|short|byte|char|boolean)\\[(\\w+)\\]");
+    private static final Pattern STATIC_FIELD = Pattern.compile("\\bstatic\\b[^;{(]*;");
+    private static final Pattern CONSTANT = Pattern.compile("static final (?:int|long) (\\w+) = (-?\\d+);");
+    private static final Pattern LOOP = Pattern.compile("\\b(for|while|do)\\b");
+    // Counts up or down to a bound; what else ends the loop may follow behind &&, but nothing that goes on without it.
+    private static final Pattern COUNTED = Pattern.compile(
+        "for \\(int (\\w+) = [^;]+; (?:\\1 (?:<|<=) [^;|?]+; \\1\\+\\+|\\1 >= [^;|?]+; \\1--)\\) \\{");
     private static final String CLASS_NAME = "PeepholeRules";
     // "Some sixty lines", and calls at most six deep, the public method counted.
     private static final int MOST_LINES = 65;
@@ -21,6 +31,7 @@ final class LanguageTest {
 
     private final Check check = new Check();
     private final Map<String, String> bodies = new LinkedHashMap<>();
+    private final Map<String, String> constants = new LinkedHashMap<>();
 
     public static void main(String[] args) throws IOException {
         String source = Files.readString(Path.of("src/main/java/PeepholeRules.java"));
@@ -29,8 +40,10 @@ final class LanguageTest {
         test.readMethods(text);
         test.check.due("methods were found", test.bodies.containsKey("optimize"), true);
         test.words(text);
+        test.constants(text);
         test.arrays(text);
-        test.methods();
+        test.loops();
+        test.calls();
         test.check.finish();
     }
 
@@ -52,7 +65,7 @@ final class LanguageTest {
     }
 
     private void readMethod(String method) {
-        Matcher name = NAME.matcher(method);
+        Matcher name = NAME.matcher(method.substring(0, method.indexOf('{')));
         check.due("a method has a name", name.find(), true);
         String body = method.substring(method.indexOf('{'));
         bodies.merge(name.group(1), body, String::concat);
@@ -60,18 +73,77 @@ final class LanguageTest {
     }
 
     private void words(String text) {
-        Matcher found = FORBIDDEN.matcher(text);
-        check.due("forbidden words", found.find() ? found.group() : "none", "none");
+        Matcher forbidden = FORBIDDEN.matcher(text);
+        check.due("forbidden words", forbidden.find() ? forbidden.group() : "none", "none");
+        Matcher other = CLASS_LIKE.matcher(text);
+        while (other.find()) {
+            check.due("a class that is named", other.group(), CLASS_NAME);
+        }
+        Matcher member = MEMBER.matcher(text);
+        while (member.find()) {
+            check.due("whose member is named by a dot", member.group(1), "this");
+        }
+        check.due("classes", text.split("\\bclass\\b").length, 2);
+    }
+
+    private void constants(String text) {
+        Matcher field = STATIC_FIELD.matcher(text);
+        while (field.find()) {
+            Matcher constant = CONSTANT.matcher(field.group());
+            boolean matches = constant.find();
+            check.due(field.group() + " has a number", matches, true);
+            if (matches) {
+                constants.put(constant.group(1), constant.group(2));
+            }
+        }
+        check.due("constants were found", constants.getOrDefault("CVAR", "none"), "14");
     }
 
     private void arrays(String text) {
-        check.due("something other than an array is made", text.replaceAll(ARRAY, "").matches("(?s).*\\bnew\\b.*"), false);
-        bodies.forEach((name, body) -> check.due(name + " makes an array",
-            !name.equals(CLASS_NAME) && body.matches("(?s).*\\bnew\\b.*"), false));
+        check.due("something other than an array is made",
+            ARRAY.matcher(text).replaceAll("").matches("(?s).*\\bnew\\b.*"), false);
+        Matcher array = ARRAY.matcher(text);
+        while (array.find()) {
+            String length = constants.getOrDefault(array.group(1), array.group(1));
+            check.due("an array's length, " + array.group(1), length.matches("[1-9]\\d*"), true);
+        }
+        // All are made by the fields' initialisers, so not even the constructor makes one.
+        bodies.forEach((name, body) -> check.due(name + " makes an array", body.matches("(?s).*\\bnew\\b.*"), false));
     }
 
-    private void methods() {
+    private void loops() {
         bodies.forEach((name, body) -> {
+            Matcher loop = LOOP.matcher(body);
+            while (loop.find()) {
+                Matcher counted = COUNTED.matcher(body).region(loop.start(), body.length());
+                boolean counts = counted.lookingAt();
+                check.due(name + " has a loop without a counter", counts, true);
+                if (counts) {
+                    String counter = counted.group(1);
+                    String inside = blockAt(body, counted.end());
+                    Pattern changed = Pattern.compile("\\b" + counter + "\\s*([-+*/%&|^]|<<|>>>?)?=[^=]|\\b" + counter
+                        + "\\s*(\\+\\+|--)|(\\+\\+|--)\\s*" + counter + "\\b");
+                    check.due(name + " changes the counter " + counter, changed.matcher(inside).find(), false);
+                }
+            }
+        });
+    }
+
+    private static String blockAt(String text, int start) {
+        int depth = 1;
+        int end = start;
+        while (end < text.length() && depth > 0) {
+            depth += text.charAt(end) == '{' ? 1 : text.charAt(end) == '}' ? -1 : 0;
+            end++;
+        }
+        return text.substring(start, end);
+    }
+
+    private void calls() {
+        bodies.forEach((name, body) -> {
+            for (String called : callsIn(body)) {
+                check.due(name + " calls " + called + ", a method of the class", bodies.containsKey(called), true);
+            }
             check.due(name + " has a call inside a call's arguments", hasNestedCall(body), false);
             check.due(name + " goes too deep, or calls itself", depthOf(name, 1) > MOST_DEEP, false);
         });

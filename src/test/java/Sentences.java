@@ -18,7 +18,7 @@ final class Sentences {
     private final List<String> sentences;
     private final Set<String> left;
 
-    // A part is "Promise 1" to "Promise 14", or what stands in bold under "Terms", such as "Match".
+    // A part is a heading such as "What it is" or "Promise 1", or what stands in bold under "Terms", such as "Match".
     Sentences(String part) throws IOException {
         this.part = part;
         sentences = read().getOrDefault(part, List.of());
@@ -32,18 +32,23 @@ final class Sentences {
 
     private static Map<String, List<String>> read() throws IOException {
         Map<String, List<String>> found = new LinkedHashMap<>();
-        boolean promises = false;
         String part = "";
+        boolean code = false;
         for (String line : Files.readAllLines(DOCUMENT)) {
+            code ^= line.startsWith("```");
             if (line.startsWith("## ")) {
                 part = line.substring(3).replaceFirst(":.*", "");
-                promises = part.equals("Terms") || part.startsWith("Promise ");
-            } else if (promises && !line.isBlank()) {
+            } else if (!code && !line.isBlank() && !line.startsWith("```") && !line.startsWith("# ")) {
                 part = line.startsWith("**") ? line.substring(2).replaceFirst("\\.?\\*\\*.*", "") : part;
                 found.computeIfAbsent(part, name -> new ArrayList<>()).addAll(split(line));
             }
         }
         return found;
+    }
+
+    // What stands between the fences; only the public face has such a block.
+    static String code() throws IOException {
+        return Files.readString(DOCUMENT).split("```[a-z]*")[1];
     }
 
     private static List<String> split(String line) {
@@ -62,6 +67,10 @@ final class Sentences {
     void test(String clause, Consumer<Check> test) {
         check.under(part + ", \"" + clause + "\"");
         tick(clause);
+        ask(test);
+    }
+
+    private void ask(Consumer<Check> test) {
         int before = check.asked();
         try {
             test.accept(check);
@@ -71,7 +80,13 @@ final class Sentences {
         check.due("something was asked", check.asked() > before, true);
     }
 
-    // For a sentence that only gives a name or opens a list.
+    // For what the part says outside its sentences.
+    void testBeside(String what, Consumer<Check> test) {
+        check.under(part + ", " + what);
+        ask(test);
+    }
+
+    // For a sentence that only gives a name, opens a list or leaves something free.
     void opens(String clause) {
         check.under(part + ", \"" + clause + "\"");
         tick(clause);

@@ -166,7 +166,7 @@ final class TermsApplyingTest {
         y.addOutput(kept);
         y.optimize();
         check.due("what is used elsewhere stays", y.stat(8), 3);
-        // 24 times two nodes more than there is room for, if none were deleted.
+        // Beside the 28 nodes there would be no room for 9 new ones, if none were deleted.
         PeepholeRules z = with("v0 neg neg not", "v0 not");
         int n = z.addNode(12, 0, 0);
         for (int i = 0; i < 9; i++) {
